@@ -52,9 +52,6 @@ public final class FirstOne {
         if (v < LOWEST[what] || v > HIGHEST[what]) {
             return BAD;
         }
-        if (what > 1 && !table.has(of)) {
-            return BAD;
-        }
         return table.change(what, of, v);
     }
 
@@ -596,7 +593,12 @@ public final class FirstOne {
             if (!has(e)) {
                 return BAD;
             }
-            int[] row = what == 2 ? number : what == 3 ? want : pace;
+            int[] row = pace;
+            if (what == 2) {
+                row = number;
+            } else if (what == 3) {
+                row = want;
+            }
             was = row[e];
             row[e] = v;
             return was;
