@@ -15,13 +15,6 @@ public final class HostTest {
         Due.close("HostTest");
     }
 
-    private static void row(FirstOne x, int sheet, int sort, int... items) {
-        x.sheet(sheet, sort, items.length);
-        for (int i = 0; i < items.length; i++) {
-            x.cell(sheet, i, items[i]);
-        }
-    }
-
     private static void sheet() {
         FirstOne x = new FirstOne();
         for (int sort = 0; sort < 3; sort++) {
@@ -42,7 +35,7 @@ public final class HostTest {
         // All 0: a plate of 8 and nothing more.
         x.eater(0, 0, 1);
         x.eater(0, 0, 1);
-        row(x, 0, 0, 8, 7);
+        Kitchen.row(x, 0, 0, 8, 7);
         Due.is("23: as put", x.plates(0, 1), 0);
         x.sheet(0, 0, 2);
         x.cell(0, 0, 8);
@@ -56,8 +49,8 @@ public final class HostTest {
     private static void sheetRefuses() {
         FirstOne x = new FirstOne();
         x.eater(0, 3, 1);
-        row(x, 0, 0, 8);
-        row(x, 1, 1, 33);
+        Kitchen.row(x, 0, 0, 8);
+        Kitchen.row(x, 1, 1, 33);
         String before = Seen.of(x);
         int[][] bad = {{-1, 0, 1}, {4, 0, 1}, {-1, 0, -1}, {0, -2, 1}, {0, 3, 1}, {0, 3, -1}, {0, 0, 41}, {1, 2, 41},
             {-1, -1, 0}, {4, -1, 0}, {Integer.MAX_VALUE, 0, 1}, {Integer.MIN_VALUE, 0, 1}, {0, Integer.MAX_VALUE, 1},
@@ -96,8 +89,8 @@ public final class HostTest {
     private static void cellRefuses() {
         FirstOne x = new FirstOne();
         x.eater(0, 3, 1);
-        row(x, 0, 0, 33);
-        row(x, 1, 1);
+        Kitchen.row(x, 0, 0, 33);
+        Kitchen.row(x, 1, 1);
         String before = Seen.of(x);
         int[][] wrong = {{-1, 0, -2}, {4, 0, -2}, {4, 9, -2}, {2, 0, -11}, {2, -1, -11}, {3, 40, -11}, {0, 1, -12},
             {0, -1, -12}, {0, 40, -12}, {1, 0, -12}, {Integer.MAX_VALUE, 0, -2}, {Integer.MIN_VALUE, 0, -2},
@@ -125,8 +118,8 @@ public final class HostTest {
         for (int e = 0; e < 5; e++) {
             x.eater(0, 0, 1);
         }
-        row(x, 0, 2, 0, 1, 2, 3, 4);
-        row(x, 1, 2, 4, 4, 4, 4);
+        Kitchen.row(x, 0, 2, 0, 1, 2, 3, 4);
+        Kitchen.row(x, 1, 2, 4, 4, 4, 4);
         Due.is("25: to another one", x.copy(0, 1, 1, 0, 3), 3);
         items("25: to another one", x, 1, 1, 2, 3, 4);
         items("25: from one", x, 0, 0, 1, 2, 3, 4);
@@ -141,8 +134,8 @@ public final class HostTest {
         FirstOne y = new FirstOne();
         y.eater(0, 0, 1);
         for (int sort = 0; sort < 3; sort++) {
-            row(y, 0, sort, 5, 33);
-            row(y, 1, sort, 6);
+            Kitchen.row(y, 0, sort, 5, 33);
+            Kitchen.row(y, 1, sort, 6);
             Due.is("25: of sort " + sort, y.copy(0, 1, 1, 0, 1), 1);
             Due.is("25: of sort " + sort, y.eaten(1, -1), 0);
         }
@@ -151,9 +144,9 @@ public final class HostTest {
     private static void copyRefuses() {
         FirstOne x = new FirstOne();
         x.eater(0, 3, 1);
-        row(x, 0, 0, 33);
-        row(x, 1, 1, 1, 2, 3);
-        row(x, 2, 1, 4, 5);
+        Kitchen.row(x, 0, 0, 33);
+        Kitchen.row(x, 1, 1, 1, 2, 3);
+        Kitchen.row(x, 2, 1, 4, 5);
         String before = Seen.of(x);
         int max = Integer.MAX_VALUE;
         int min = Integer.MIN_VALUE;
@@ -177,7 +170,7 @@ public final class HostTest {
     private static void eaters() {
         for (int sort = 0; sort < 3; sort++) {
             FirstOne x = new FirstOne();
-            row(x, 0, sort, 99, 1, 12, 20, 5, 107, 1, 3, 0, 2);
+            Kitchen.row(x, 0, sort, 99, 1, 12, 20, 5, 107, 1, 3, 0, 2);
             Due.is("26: none", x.eaters(0, sort, 1, 0), 0);
             Due.is("26: nobody came", x.count(0), 0);
             Due.is("26: three", x.eaters(0, sort, 1, 3), 3);
@@ -197,7 +190,7 @@ public final class HostTest {
 
     private static void eatersLeftOut() {
         FirstOne x = new FirstOne();
-        row(x, 0, 1, 0, 912, 20, 6, 0, 1, 1, 13, 1, 2, 0, 0, 5, 100, 5);
+        Kitchen.row(x, 0, 1, 0, 912, 20, 6, 0, 1, 1, 13, 1, 2, 0, 0, 5, 100, 5);
         Due.is("26: three are left out", x.eaters(0, 1, 0, 5), 2);
         Due.is("26: two came", x.count(0), 2);
         Due.is("26: the last one came", x.told(1, 0), 5);
@@ -218,7 +211,7 @@ public final class HostTest {
 
     private static void eatersRefuse() {
         FirstOne x = new FirstOne();
-        row(x, 0, 0, 0, 5, 1, 1, 5);
+        Kitchen.row(x, 0, 0, 0, 5, 1, 1, 5);
         String before = Seen.of(x);
         int max = Integer.MAX_VALUE;
         int min = Integer.MIN_VALUE;

@@ -19,6 +19,7 @@ public final class OracleTest {
         for (int run = 0; run < RUNS && Due.wrong() == 0; run++) {
             new OracleTest(run).play();
         }
+        manyTexts();
         Due.close("OracleTest");
     }
 
@@ -238,6 +239,39 @@ public final class OracleTest {
                 c = of(-1, 6);
                 like("taken " + a + " " + c, x.taken(a, c), o.taken(a, c));
                 break;
+        }
+    }
+
+    /** Texts by the grammar and spoiled ones: number or fault as the Oracle says. */
+    private static void manyTexts() {
+        Dice d = new Dice(4711);
+        TextMaker maker = new TextMaker(d);
+        String[] bits = {"(", "-", "not ", "1", "late", ")", "+", "<", " ", "or ", ";"};
+        for (int i = 0; i < 20000; i++) {
+            StringBuilder s = new StringBuilder();
+            if (i % 2 == 0) {
+                s.append("takes ");
+                int n = d.between(1, 14);
+                for (int b = 0; b < n; b++) {
+                    s.append(bits[d.upTo(bits.length)]);
+                }
+                s.append(";hunger 1;worth 1;");
+            } else {
+                s.append(maker.spoiled());
+            }
+            FirstOne x = new FirstOne();
+            Oracle o = new Oracle();
+            for (int c = 0; c < s.length(); c++) {
+                x.feed(s.charAt(c));
+                o.feed(s.charAt(c));
+            }
+            int due = o.text();
+            Due.is("7: text " + s, x.text(), due);
+            x.force(1);
+            o.force(1);
+            for (int k = 0; k < 8; k++) {
+                Due.is("7: cake " + k + " by " + s, x.ready(k), o.ready(k));
+            }
         }
     }
 }

@@ -17,13 +17,6 @@ public final class PlatesTest {
         Due.close("PlatesTest");
     }
 
-    private static void row(FirstOne x, int sheet, int sort, int... items) {
-        x.sheet(sheet, sort, items.length);
-        for (int i = 0; i < items.length; i++) {
-            x.cell(sheet, i, items[i]);
-        }
-    }
-
     private static FirstOne table(int... wants) {
         FirstOne x = new FirstOne();
         for (int want : wants) {
@@ -33,7 +26,7 @@ public final class PlatesTest {
     }
 
     private static long plates(FirstOne x, int what, int... items) {
-        row(x, 3, 2, items);
+        Kitchen.row(x, 3, 2, items);
         return x.plates(3, what);
     }
 
@@ -97,9 +90,9 @@ public final class PlatesTest {
 
     private static void platesRefuses() {
         FirstOne x = table(1, 1);
-        row(x, 0, 0, 4, 4);
-        row(x, 1, 0, 4);
-        row(x, 2, 0, 4, 4, 0);
+        Kitchen.row(x, 0, 0, 4, 4);
+        Kitchen.row(x, 1, 0, 4);
+        Kitchen.row(x, 2, 0, 4, 4, 0);
         String before = Seen.of(x);
         int[][] wrong = {{-1, 0}, {4, 0}, {0, -1}, {0, 2}, {1, 0}, {1, 1}, {2, 0}, {2, 1}, {3, 0}, {3, 1},
             {Integer.MAX_VALUE, 0}, {Integer.MIN_VALUE, 0}, {0, Integer.MAX_VALUE}, {0, Integer.MIN_VALUE}};
@@ -115,17 +108,17 @@ public final class PlatesTest {
         x.set(4, 1, 3);
         x.set(0, 0, 2);
         // Eaten in minutes 5, 11, and none.
-        row(x, 0, 0, 5, 11, -1);
+        Kitchen.row(x, 0, 0, 5, 11, -1);
         Due.is("16: all so", x.eaten(0, -1), 0);
-        row(x, 0, 1, 6, 11, 0);
+        Kitchen.row(x, 0, 1, 6, 11, 0);
         Due.is("16: two not so", x.eaten(0, -1), 1 + 4);
-        row(x, 0, 2, -1, -1, -1);
+        Kitchen.row(x, 0, 2, -1, -1, -1);
         Due.is("16: two others not so", x.eaten(0, -1), 1 + 2);
-        row(x, 0, 2, 5, 11, -1);
+        Kitchen.row(x, 0, 2, 5, 11, -1);
         Due.is("16: PACES of the first", x.eaten(0, 0), 1 << 1);
         Due.is("16: PACES of the second", x.eaten(0, 1), 1 << 3);
         Due.is("16: PACES of who has none", x.eaten(0, 2), (1 << 21) - 2);
-        row(x, 0, 2, -1, 28, 60);
+        Kitchen.row(x, 0, 2, -1, 28, 60);
         Due.is("16: no PACE", x.eaten(0, 0), 0);
         Due.is("16: the slowest", x.eaten(0, 1), 1 << 20);
         Due.is("16: no PACE", x.eaten(0, 2), 0);
@@ -133,22 +126,22 @@ public final class PlatesTest {
         x.eater(1, 0, 9);
         x.set(0, 0, 12);
         // Eater 3, a quick one, has cakes 3, 7, 11 in minutes 16, 32, 48.
-        row(x, 0, 0, 0, 0, 0, 52);
+        Kitchen.row(x, 0, 0, 0, 0, 0, 52);
         Due.is("16: a quick one", x.eaten(0, 3), 1 << 8 | 1 << 9);
-        row(x, 0, 0, 0, 0, 0, 60);
+        Kitchen.row(x, 0, 0, 0, 0, 0, 60);
         Due.is("16: above 59 it is 60", x.eaten(0, 3), 0);
         x.set(4, 3, 20);
-        row(x, 0, 0, 0, 0, 0, 58);
+        Kitchen.row(x, 0, 0, 0, 0, 0, 58);
         Due.is("16: one such", x.eaten(0, 3), 1 << 20);
-        row(x, 0, 0, 60, 0, 0, 0);
+        Kitchen.row(x, 0, 0, 60, 0, 0, 0);
         // Eater 0 has cakes 0, 4, 8 in minutes 4, 20, 36: by PACE p behind 36 + p or 4 + 3 p: above 59 from 19 on.
         Due.is("16: 60 for all above 59", x.eaten(0, 0), 1 << 19 | 1 << 20);
-        row(x, 0, 0, 61, 0, 0, 0);
+        Kitchen.row(x, 0, 0, 61, 0, 0, 0);
         Due.is("16: never 61", x.eaten(0, 0), 0);
-        row(x, 0, 0, 59, 0, 0, 0);
+        Kitchen.row(x, 0, 0, 59, 0, 0, 0);
         Due.is("16: 59 is 59", x.eaten(0, 0), 0);
         x.set(4, 0, 20);
-        row(x, 0, 0, 60, 0, 0, 58);
+        Kitchen.row(x, 0, 0, 60, 0, 0, 58);
         Due.is("16: who isn't so", x.eaten(0, -1), 2 + 4);
         x = new FirstOne();
         x.sheet(0, 0, 0);
@@ -157,9 +150,9 @@ public final class PlatesTest {
 
     private static void eatenRefuses() {
         FirstOne x = table(1, 1);
-        row(x, 0, 0, 4, 4);
-        row(x, 1, 0, 4);
-        row(x, 2, 0, 4, 4, 0);
+        Kitchen.row(x, 0, 0, 4, 4);
+        Kitchen.row(x, 1, 0, 4);
+        Kitchen.row(x, 2, 0, 4, 4, 0);
         String before = Seen.of(x);
         int[][] wrong = {{-1, -1}, {4, -1}, {0, -2}, {0, 2}, {3, 2}, {3, -2}, {1, -1}, {1, 0}, {2, -1}, {2, 1},
             {Integer.MAX_VALUE, 0}, {Integer.MIN_VALUE, 0}, {0, Integer.MAX_VALUE}, {0, Integer.MIN_VALUE}};
@@ -320,7 +313,7 @@ public final class PlatesTest {
         FirstOne x = new FirstOne();
         Due.is("20: an image", x.image(), 0);
         x.feed('a');
-        row(x, 0, 1, 7, 8, 9);
+        Kitchen.row(x, 0, 1, 7, 8, 9);
         Due.read(x, "takes 5;hunger 1;worth 1;");
         Due.read(x, "takes 6;hunger 1;worth 1;");
         x.feed('b');

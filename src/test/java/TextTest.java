@@ -11,7 +11,6 @@ public final class TextTest {
         blanks();
         text();
         force();
-        manyFaults();
         Due.close("TextTest");
     }
 
@@ -313,38 +312,5 @@ public final class TextTest {
         }
         Seen.same("8: force", before, x);
         Due.is("8: the same one", x.force(1), 1);
-    }
-
-    /** Texts by the grammar and spoiled ones: number or fault as the Oracle says. */
-    private static void manyFaults() {
-        Dice d = new Dice(4711);
-        TextMaker maker = new TextMaker(d);
-        String[] bits = {"(", "-", "not ", "1", "late", ")", "+", "<", " ", "or ", ";"};
-        for (int i = 0; i < 20000; i++) {
-            StringBuilder s = new StringBuilder();
-            if (i % 2 == 0) {
-                s.append("takes ");
-                int n = d.between(1, 14);
-                for (int b = 0; b < n; b++) {
-                    s.append(bits[d.upTo(bits.length)]);
-                }
-                s.append(";hunger 1;worth 1;");
-            } else {
-                s.append(maker.spoiled());
-            }
-            FirstOne x = new FirstOne();
-            Oracle o = new Oracle();
-            for (int c = 0; c < s.length(); c++) {
-                x.feed(s.charAt(c));
-                o.feed(s.charAt(c));
-            }
-            int due = o.text();
-            Due.is("7: text " + s, x.text(), due);
-            x.force(1);
-            o.force(1);
-            for (int k = 0; k < 8; k++) {
-                Due.is("7: cake " + k + " by " + s, x.ready(k), o.ready(k));
-            }
-        }
     }
 }
