@@ -10,6 +10,7 @@ public final class TextTest {
         openOnes();
         blanks();
         text();
+        afterLonger();
         force();
         Due.close("TextTest");
     }
@@ -294,6 +295,22 @@ public final class TextTest {
         Due.is("7: a text of 160 bytes", Due.read(x, s.append(' ').toString()), 1);
         x.force(1);
         Due.is("7: what it tells", x.ready(0), 5);
+    }
+
+    /** What a longer tape said behind the place where a shorter one ends is nothing to that one, a FAULT's neither. */
+    private static void afterLonger() {
+        String[] longer = {"-5", "not 5", "not not 5", "5+2", "5*3", "5-9", "5<4", "5=4", "0 and 0", "0 or 0", "--5 +",
+            "-5*(", "not 5 x"};
+        for (String e : longer) {
+            FirstOne x = new FirstOne();
+            x.eater(0, 0, 1);
+            x.set(0, 0, 1);
+            int first = Due.read(x, "takes 4; hunger 1; worth " + e + ";");
+            int then = Due.read(x, "takes 4; hunger 1; worth 7;");
+            Due.is("7: behind " + e, then, first < 0 ? 1 : 2);
+            x.force(then);
+            Due.is("7: worth 7 behind " + e, x.supper(1, 0, 0), -7);
+        }
     }
 
     private static void force() {
